@@ -690,7 +690,10 @@ public final class Weightlattice {
             return negative;
         }
 
-        /** Elements are held as what they make of rho; if w goes down by a mirror, x is below w if the lower of x and its image is below the lower w. */
+        /**
+         * Elements are held as what they make of rho; if w goes down by a mirror, x is below w if the lower of x and
+         * its image is below the lower w.
+         */
         boolean isUnder(long[] x, long[] w) {
             for (int k = 0; k < count; k++) {
                 int mirror = firstBelowZero(w);
@@ -710,7 +713,10 @@ public final class Weightlattice {
             return true;
         }
 
-        /** The product of (sum + 1) / sum over all roots is the order of the group; those that pair to 0 with a dominant x make up the group that leaves x as it is. */
+        /**
+         * The product of (sum + 1) / sum over all roots is the order of the group; those that pair to 0 with a
+         * dominant x make up the group that leaves x as it is.
+         */
         long orbitSize(long[] x) {
             long upper = 1;
             long lower = 1;
@@ -904,7 +910,6 @@ public final class Weightlattice {
 
         /** Elements in the order of their lengths, with what a mirror ahead makes of each. */
         private void findElements() {
-            count = 0;
             enter(Keys.pack(roots.rho), 0);
             for (int w = 0; w < count && w < MOST_ELEMENTS; w++) {
                 for (int i = 0; i < roots.rank; i++) {
@@ -1231,7 +1236,10 @@ public final class Weightlattice {
             row = new long[MOST_RANK];
         }
 
-        /** Without the mirror of that number, if there is one, and with the mirror of the affine wall, if there is one. */
+        /**
+         * Without the mirror of that number, if there is one, and with the mirror of the affine wall, if there is
+         * one.
+         */
         void split(Weights module, long[] shift, int without, int wall) {
             parts.empty();
             for (int k = 0; k < module.size; k++) {

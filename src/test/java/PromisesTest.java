@@ -355,7 +355,11 @@ public final class PromisesTest {
         due("C3", "135", () -> exponents(hall('C', 3), 3));
         due("D4", "1335", () -> exponents(hall('D', 4), 4));
         due("G2", "15", () -> exponents(hall('G', 2), 2));
-        Weightlattice x = hall('A', 3);
+        Weightlattice x = hall('D', 4);
+        x.choose('G', 2);
+        due("chosen again", "15", () -> exponents(x, 2));
+        x.choose('A', 3);
+        due("chosen again", "123", () -> exponents(x, 3));
         due("exponent -1", INDEX, () -> x.exponent(-1));
         due("exponent 3", INDEX, () -> x.exponent(3));
     }
@@ -838,10 +842,29 @@ public final class PromisesTest {
         due("dimension 315", ARITHMETIC, () -> a.multiplicity(2, 0));
         due("31 is taken as not dominant", UNSUPPORTED, () -> raised(31).multiplicity(0, 0));
         due("dimension 496", ARITHMETIC, () -> raised(30).multiplicity(0, 0));
+        weight(farOff(x), 0, 1, 0);
+        due("a weight far beyond all others", 0, () -> x.multiplicity(0, 1));
         Weightlattice d = hall('D', 4);
         weight(d, 0, 0, 2, 0, 0);
         due("dimension 300", 12, () -> multiplicity(d, 0, 0, 0, 0));
         due("another weight of it", 5, () -> multiplicity(d, 0, 1, 0, 0));
+    }
+
+    /** Brings (0, 4096) into register 1 of G2: two mirrors double a coordinate. */
+    private static Weightlattice farOff(Weightlattice x) {
+        weight(x, 1, 8, 0);
+        word(x, 1, 0);
+        for (int k = 0; k < 9; k++) {
+            x.act(1);
+            x.set(1, 1, 0);
+        }
+        word(x, 0);
+        x.act(1);
+        x.set(1, 0, 0);
+        if (x.get(1, 1) != 4096) {
+            throw new IllegalStateException("the test is off: " + weightIn(x, 1, 2));
+        }
+        return x;
     }
 
     private static void promise25() {
@@ -978,6 +1001,9 @@ public final class PromisesTest {
         Weightlattice x = hall('A', 2);
         weight(x, 0, 1, 1);
         due("8 without 0", "1 x 1 1, 1 x 0 0, 1 x -1 2, 1 x -2 1", () -> parts(x, x.branch(0, 0), 2));
+        x.length();
+        weight(x, 2, 5, -7);
+        x.orbit(2);
         due("8 without 1", "1 x 2 -1, 1 x 1 1, 1 x 1 -2, 1 x 0 0", () -> parts(x, x.branch(0, 1), 2));
         due("nothing is changed", "1 1", () -> weightIn(x, 0, 2));
         Weightlattice a = hall('A', 1);

@@ -22,7 +22,8 @@ public final class Weightlattice {
     private final Weights module;
     private final Splitter splitter;
     private final Checker checker;
-    private final long[][] registers;
+    private final Register[] registers;
+    private final Register spare;
     private final long[] kept;
     private final long[] here;
     private final long[] there;
@@ -34,7 +35,11 @@ public final class Weightlattice {
         module = new Weights(roots);
         splitter = new Splitter(roots);
         checker = new Checker(roots);
-        registers = new long[REGISTERS][MOST_RANK];
+        registers = new Register[REGISTERS];
+        for (int r = 0; r < REGISTERS; r++) {
+            registers[r] = new Register(roots);
+        }
+        spare = new Register(roots);
         kept = new long[MOST_RANK];
         here = new long[MOST_RANK];
         there = new long[MOST_RANK];
@@ -53,9 +58,7 @@ public final class Weightlattice {
         splitter.parts.empty();
         copy(roots.rho, kept);
         for (int r = 0; r < REGISTERS; r++) {
-            for (int i = 0; i < MOST_RANK; i++) {
-                registers[r][i] = 0;
-            }
+            registers[r].empty();
         }
         return roots.count;
     }
@@ -175,8 +178,8 @@ public final class Weightlattice {
         if (value < -MOST_SET || value > MOST_SET) {
             throw new IllegalArgumentException("the coordinate is out of range");
         }
-        int before = (int) registers[register][index];
-        registers[register][index] = value;
+        int before = registers[register].low(index);
+        registers[register].write(index, value);
         return before;
     }
 
@@ -184,35 +187,27 @@ public final class Weightlattice {
         requireSystem();
         requireRegister(register);
         requireSimple(index);
-        return (int) registers[register][index];
+        return registers[register].low(index);
     }
 
     public int act(int register) throws IllegalStateException, IndexOutOfBoundsException {
         requireSystem();
         requireRegister(register);
-        long[] weight = registers[register];
-        copy(weight, here);
-        word.actOn(weight);
-        int changed = 0;
-        for (int i = 0; i < roots.rank; i++) {
-            if (weight[i] != here[i]) {
-                changed++;
-            }
-        }
-        return changed;
+        spare.become(registers[register]);
+        word.actOn(registers[register]);
+        return spare.differences(registers[register]);
     }
 
     public int raise(int register) throws IllegalStateException, IndexOutOfBoundsException {
         requireSystem();
         requireRegister(register);
-        return roots.lift(registers[register]);
+        return registers[register].lift();
     }
 
     public int orbit(int register) throws IllegalStateException, IndexOutOfBoundsException {
         requireSystem();
         requireRegister(register);
-        copy(registers[register], here);
-        roots.lift(here);
+        liftedInto(here, register);
         return (int) roots.orbitSize(here);
     }
 
@@ -220,17 +215,19 @@ public final class Weightlattice {
         requireSystem();
         requireRegister(register);
         requireRoot(root);
-        return (int) roots.pair(registers[register], root);
+        for (int i = 0; i < MOST_RANK; i++) {
+            here[i] = registers[register].low(i);
+        }
+        return (int) roots.pair(here, root);
     }
 
     public boolean isLower(int one, int other) throws IllegalStateException, IndexOutOfBoundsException {
         requireSystem();
         requireRegister(one);
         requireRegister(other);
-        for (int i = 0; i < MOST_RANK; i++) {
-            here[i] = registers[other][i] - registers[one][i];
-        }
-        return roots.isSumOfSimple(here);
+        spare.become(registers[other]);
+        spare.takeAway(registers[one]);
+        return spare.isSumOfSimple();
     }
 
     // ---- modules
@@ -239,7 +236,7 @@ public final class Weightlattice {
         requireSystem();
         requireRegister(register);
         requireDominant(register);
-        return roots.dimensionOf(registers[register]);
+        return moduleSize(register);
     }
 
     public int multiplicity(int register, int other) throws IllegalStateException, IndexOutOfBoundsException, UnsupportedOperationException, ArithmeticException {
@@ -249,8 +246,7 @@ public final class Weightlattice {
         requireDominant(register);
         requireSmall(register);
         module.take(registers[register]);
-        copy(registers[other], here);
-        roots.lift(here);
+        liftedInto(here, other);
         return module.countOf(here);
     }
 
@@ -271,7 +267,8 @@ public final class Weightlattice {
         requireDominant(other);
         requireSmall(one);
         module.take(registers[one]);
-        splitter.split(module, registers[other], NONE, NO_WALL);
+        registers[other].nearInto(here);
+        splitter.split(module, here, NONE, NO_WALL);
         return splitter.parts.size;
     }
 
@@ -284,7 +281,8 @@ public final class Weightlattice {
         requireLevel(level, one, other);
         requireSmall(one);
         module.take(registers[one]);
-        splitter.split(module, registers[other], NONE, level + roots.dualCoxeter());
+        registers[other].nearInto(here);
+        splitter.split(module, here, NONE, level + roots.dualCoxeter());
         return splitter.parts.size;
     }
 
@@ -328,7 +326,7 @@ public final class Weightlattice {
         requireRegister(other);
         requireDominant(one);
         requireDominant(other);
-        return (double) roots.dimensionOf(registers[one]) / (double) roots.dimensionOf(registers[other]);
+        return (double) moduleSize(one) / (double) moduleSize(other);
     }
 
     public char type() {
@@ -340,15 +338,15 @@ public final class Weightlattice {
         if (roots.exponentProduct() != roots.groupSize) {
             return false;
         }
-        if (!roots.isHighest(registers[0])) {
+        if (!isHighest(0)) {
             return true;
         }
-        long dimension = roots.dimensionOf(registers[0]);
+        long dimension = moduleSize(0);
         if (dimension > MOST_CHECKED_DIMENSION) {
             return true;
         }
         module.take(registers[0]);
-        return module.countAll() == dimension && checker.agrees(module, registers[0]);
+        return module.countAll() == dimension && checker.agrees(module);
     }
 
     // ---- what calls ask for first
@@ -384,13 +382,13 @@ public final class Weightlattice {
     }
 
     private void requireDominant(int register) {
-        if (!roots.isHighest(registers[register])) {
+        if (!isHighest(register)) {
             throw new UnsupportedOperationException("the weight is not dominant");
         }
     }
 
     private void requireSmall(int register) {
-        if (roots.dimensionOf(registers[register]) > MOST_DIMENSION) {
+        if (moduleSize(register) > MOST_DIMENSION) {
             throw new ArithmeticException("the dimension is too great");
         }
     }
@@ -399,8 +397,10 @@ public final class Weightlattice {
         if (level < 0 || level > MOST_LEVEL) {
             throw new IllegalArgumentException("the level is out of range");
         }
+        registers[one].nearInto(here);
+        registers[other].nearInto(there);
         int highest = roots.count - 1;
-        if (level < roots.pair(registers[one], highest) || level < roots.pair(registers[other], highest)) {
+        if (level < roots.pair(here, highest) || level < roots.pair(there, highest)) {
             throw new IllegalArgumentException("the level is less than a pairing");
         }
     }
@@ -409,6 +409,24 @@ public final class Weightlattice {
         word.elementInto(here);
         copy(kept, there);
         return roots.isUnder(here, there);
+    }
+
+    // ---- registers as rows of machine numbers
+
+    private boolean isHighest(int register) {
+        registers[register].nearInto(here);
+        return roots.isHighest(here);
+    }
+
+    private long moduleSize(int register) {
+        registers[register].nearInto(here);
+        return roots.dimensionOf(here);
+    }
+
+    private void liftedInto(long[] row, int register) {
+        spare.become(registers[register]);
+        spare.lift();
+        spare.nearInto(row);
     }
 
     private static void copy(long[] from, long[] into) {
@@ -729,23 +747,17 @@ public final class Weightlattice {
             return lower == 0 ? 0 : upper / lower;
         }
 
-        /** The sum over all roots of (x, root) times the root is x times the sum of squares / rank. */
-        boolean isSumOfSimple(long[] x) {
-            long whole = 2L * squareSum;
-            if (whole == 0) {
-                return false;
+        /** Coefficients come of coordinates by these and shareDivisor: the sum of (x, root) root is a multiple of x. */
+        int share(int coordinate, int simple) {
+            int sum = 0;
+            for (int r = 0; r < count; r++) {
+                sum += coroots[r][coordinate] * squares[r] * coefficients[r][simple];
             }
-            for (int i = 0; i < rank; i++) {
-                long part = 0;
-                for (int r = 0; r < count; r++) {
-                    part += pair(x, r) * squares[r] * coefficients[r][i];
-                }
-                part *= rank;
-                if (part < 0 || part % whole != 0) {
-                    return false;
-                }
-            }
-            return true;
+            return rank * sum;
+        }
+
+        int shareDivisor() {
+            return 2 * squareSum;
         }
 
         /** As (x, x), but times 4 * squareSum / rank, so that it is whole. */
@@ -818,6 +830,12 @@ public final class Weightlattice {
             }
         }
 
+        void actOn(Register x) {
+            for (int k = size - 1; k >= 0; k--) {
+                x.mirrorAt(mirrors[k]);
+            }
+        }
+
         void elementInto(long[] x) {
             copy(roots.rho, x);
             actOn(x);
@@ -828,6 +846,167 @@ public final class Weightlattice {
             for (int k = 0; k < size; k++) {
                 roots.mirrorAt(x, mirrors[k]);
             }
+        }
+    }
+
+    /**
+     * The weight in a register. To act and to set in turn makes coordinates greater and greater, so each one is a row
+     * of digits, the low ones first, and below 0 as the machine holds its own numbers. The mirrors between two sets
+     * are one element of the group, which makes the greatest coordinate at most 5 times as great, and 512 calls have
+     * at most 256 such turns: 9 * 5^256 takes 598 bits of the 640, which leaves room for the sums that are made of it.
+     */
+    private static final class Register {
+        private static final int DIGITS = 20;
+        private static final int BITS = 32;
+        private static final long MASK = 4294967295L;
+        private static final long FAR = 4294967296L;
+
+        private final Roots roots;
+        private final long[][] coordinates;
+        private final long[] total;
+
+        Register(Roots roots) {
+            this.roots = roots;
+            coordinates = new long[MOST_RANK][DIGITS];
+            total = new long[DIGITS];
+        }
+
+        void empty() {
+            for (int i = 0; i < MOST_RANK; i++) {
+                write(i, 0);
+            }
+        }
+
+        void write(int index, int value) {
+            long[] digits = coordinates[index];
+            digits[0] = value & MASK;
+            for (int k = 1; k < DIGITS; k++) {
+                digits[k] = value < 0 ? MASK : 0;
+            }
+        }
+
+        /** The coordinate, or what is left of a greater one in an int. */
+        int low(int index) {
+            return (int) coordinates[index][0];
+        }
+
+        void become(Register other) {
+            for (int i = 0; i < MOST_RANK; i++) {
+                for (int k = 0; k < DIGITS; k++) {
+                    coordinates[i][k] = other.coordinates[i][k];
+                }
+            }
+        }
+
+        void takeAway(Register other) {
+            for (int i = 0; i < MOST_RANK; i++) {
+                addTimes(coordinates[i], other.coordinates[i], -1);
+            }
+        }
+
+        int differences(Register other) {
+            int count = 0;
+            for (int i = 0; i < MOST_RANK; i++) {
+                if (!isSame(coordinates[i], other.coordinates[i])) {
+                    count++;
+                }
+            }
+            return count;
+        }
+
+        /** The mirror's own coordinate comes last, as the others still need it. */
+        void mirrorAt(int mirror) {
+            for (int j = 0; j < roots.rank; j++) {
+                if (j != mirror && roots.matrix[mirror][j] != 0) {
+                    addTimes(coordinates[j], coordinates[mirror], -roots.matrix[mirror][j]);
+                }
+            }
+            addTimes(coordinates[mirror], coordinates[mirror], -2);
+        }
+
+        /** As the lift of a row: each mirror makes one root fewer negative. */
+        int lift() {
+            int steps = 0;
+            while (steps < roots.count && liftOnce()) {
+                steps++;
+            }
+            return steps;
+        }
+
+        private boolean liftOnce() {
+            for (int i = 0; i < roots.rank; i++) {
+                if (isBelowZero(coordinates[i])) {
+                    mirrorAt(i);
+                    return true;
+                }
+            }
+            return false;
+        }
+
+        /** A coordinate beyond 32 bits is told as 2^32 or less that: it is not 0, and too great for any module. */
+        void nearInto(long[] row) {
+            for (int i = 0; i < MOST_RANK; i++) {
+                row[i] = near(coordinates[i]);
+            }
+        }
+
+        boolean isSumOfSimple() {
+            for (int i = 0; i < roots.rank; i++) {
+                for (int k = 0; k < DIGITS; k++) {
+                    total[k] = 0;
+                }
+                for (int j = 0; j < roots.rank; j++) {
+                    addTimes(total, coordinates[j], roots.share(j, i));
+                }
+                if (isBelowZero(total) || rest(total, roots.shareDivisor()) != 0) {
+                    return false;
+                }
+            }
+            return true;
+        }
+
+        private static boolean isBelowZero(long[] digits) {
+            return digits[DIGITS - 1] > MASK / 2;
+        }
+
+        private static boolean isSame(long[] one, long[] other) {
+            for (int k = 0; k < DIGITS; k++) {
+                if (one[k] != other[k]) {
+                    return false;
+                }
+            }
+            return true;
+        }
+
+        private static long near(long[] digits) {
+            boolean below = isBelowZero(digits);
+            for (int k = 1; k < DIGITS; k++) {
+                if (digits[k] != (below ? MASK : 0)) {
+                    return below ? -FAR : FAR;
+                }
+            }
+            return below ? digits[0] - FAR : digits[0];
+        }
+
+        private static void addTimes(long[] into, long[] digits, int factor) {
+            long carry = 0;
+            for (int k = 0; k < DIGITS; k++) {
+                long sum = into[k] + factor * digits[k] + carry;
+                into[k] = sum & MASK;
+                carry = sum >> BITS;
+            }
+        }
+
+        /** What is left of a number that is not below 0 when it is divided. */
+        private static long rest(long[] digits, int divisor) {
+            if (divisor <= 0) {
+                return 0;
+            }
+            long left = 0;
+            for (int k = DIGITS - 1; k >= 0; k--) {
+                left = ((left << BITS) + digits[k]) % divisor;
+            }
+            return left;
         }
     }
 
@@ -1034,15 +1213,16 @@ public final class Weightlattice {
         }
 
         /** Finds the weights of the module of x, whose dimension is at most 300; the last ones found are used again. */
-        void take(long[] x) {
-            long key = Keys.pack(x);
+        void take(Register x) {
+            x.nearInto(row);
+            long key = Keys.pack(row);
             if (key == highest) {
                 return;
             }
             highest = key;
-            highestNorm = shiftedNorm(x);
+            highestNorm = shiftedNorm(row);
             dominants = 0;
-            enter(x);
+            enter(row);
             for (int k = 0; k < dominants && k < MOST_DIMENSION; k++) {
                 Keys.unpack(keys[k], row);
                 counts[k] = k == 0 ? 1 : countByStrings();
@@ -1317,11 +1497,11 @@ public final class Weightlattice {
             row = new long[MOST_RANK];
         }
 
-        boolean agrees(Weights module, long[] highest) {
+        boolean agrees(Weights module) {
             Sum found = one;
             Sum next = other;
             found.empty();
-            found.add(Keys.pack(highest), 1);
+            found.add(module.highest, 1);
             for (int i = 0; i < MOST_RANK; i++) {
                 element[i] = -roots.rho[i];
             }

@@ -263,7 +263,7 @@ public final class BoundariesTest {
         }
     }
 
-    /** B3 after so many calls, always in the same state. */
+    /** B3 after so many calls, always in the same state but for register 1. */
     private static Weightlattice worn(int calls) {
         Weightlattice x = open(B3);
         load(x, 0, 1, 0, 1);

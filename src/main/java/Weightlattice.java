@@ -681,13 +681,12 @@ public final class Weightlattice {
             return true;
         }
 
-        /** Each such mirror makes one root fewer negative on x, so there are as few as can be. */
-        int lift(long[] x) {
-            int steps = 0;
-            while (steps < count && liftOnce(x)) {
-                steps++;
+        /** Each such mirror makes one root fewer negative on x. */
+        void lift(long[] x) {
+            boolean lifted = true;
+            for (int step = 0; step < count && lifted; step++) {
+                lifted = liftOnce(x);
             }
-            return steps;
         }
 
         long pair(long[] x, int root) {
@@ -924,7 +923,7 @@ public final class Weightlattice {
             addTimes(coordinates[mirror], coordinates[mirror], -2);
         }
 
-        /** As the lift of a row: each mirror makes one root fewer negative. */
+        /** Each such mirror makes one root fewer negative, so there are as few as can be. */
         int lift() {
             int steps = 0;
             while (steps < roots.count && liftOnce()) {

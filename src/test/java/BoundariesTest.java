@@ -53,6 +53,8 @@ public final class BoundariesTest {
         "2", "222", "222222", "2222222222", "4224", "442422444", "224222424", "222222222222", "262266",
     };
 
+    private static final String[] EXPONENTS = {"1", "12", "123", "1234", "13", "135", "135", "1335", "15"};
+
     private interface Call {
         Object on(Weightlattice x);
     }
@@ -229,6 +231,22 @@ public final class BoundariesTest {
             for (int i = 0; i < RANKS[system]; i++) {
                 text.append(x.coefficient(r, i));
             }
+        }
+        return text.toString();
+    }
+
+    private static String squares(Weightlattice x, int count) {
+        StringBuilder text = new StringBuilder();
+        for (int r = 0; r < count; r++) {
+            text.append(x.square(r));
+        }
+        return text.toString();
+    }
+
+    private static String exponents(Weightlattice x, int n) {
+        StringBuilder text = new StringBuilder();
+        for (int i = 0; i < n; i++) {
+            text.append(x.exponent(i));
         }
         return text.toString();
     }
@@ -421,13 +439,7 @@ public final class BoundariesTest {
         sentence = "The square of a root is 2, 4 or 6: 2 for the shortest ones, 4 for others in B and C, 6 for others in G; all in A and D have 2.";
         for (int s = 0; s < SYSTEMS; s++) {
             int count = ROOTS[s];
-            due(SQUARES[s], open(s), x -> {
-                StringBuilder text = new StringBuilder();
-                for (int r = 0; r < count; r++) {
-                    text.append(x.square(r));
-                }
-                return text;
-            });
+            due(SQUARES[s], open(s), x -> squares(x, count));
         }
         sentence = "divided by the square of the root; it is whole";
         for (int s = 0; s < SYSTEMS; s++) {
@@ -846,6 +858,8 @@ public final class BoundariesTest {
                 due(ORDERS[t], x, Weightlattice::order);
                 due(MATRICES[t], x, y -> matrix(y, n));
                 due(COEFFICIENTS[t], x, y -> coefficients(y, next));
+                due(SQUARES[t], x, y -> squares(y, ROOTS[next]));
+                due(EXPONENTS[t], x, y -> exponents(y, n));
                 due(INDEX, x, y -> y.matrix(0, n));
                 due(INDEX, x, y -> y.square(ROOTS[next]));
                 sentence = "the word is as at first then";
@@ -895,16 +909,9 @@ public final class BoundariesTest {
             }
         }
         sentence = "the index, from 0, the least exponent first";
-        String[] exponents = {"1", "1 2", "1 2 3", "1 2 3 4", "1 3", "1 3 5", "1 3 5", "1 3 3 5", "1 5"};
         for (int s = 0; s < SYSTEMS; s++) {
             int n = RANKS[s];
-            due(exponents[s], open(s), x -> {
-                StringBuilder text = new StringBuilder();
-                for (int i = 0; i < n; i++) {
-                    text.append(i == 0 ? "" : " ").append(x.exponent(i));
-                }
-                return text;
-            });
+            due(EXPONENTS[s], open(s), x -> exponents(x, n));
             due(INDEX, open(s), x -> x.exponent(n));
             due(ORDERS[s], open(s), Weightlattice::order);
         }
